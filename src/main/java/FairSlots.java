@@ -1267,7 +1267,7 @@ public final class FairSlots {
                 return startOfP;
             }
             if (e > p) {
-                return couldGrowTo(e, p) ? bound : startOfE;
+                return startOfE;
             }
             boolean early = place < bound && signs[place] == 'e';
             if (early) {
@@ -1275,11 +1275,6 @@ public final class FairSlots {
             }
             world.enter(task, e, p, early ? 1 : 0);
             return NONE;
-        }
-
-        /** A P of which the text is too long to show more than a 1 could still be 10 .. 12. */
-        private boolean couldGrowTo(int e, int p) {
-            return p == 1 && place >= bound && size > bound && e <= GREATEST_P;
         }
 
         /** One or two digits without 0 ahead; 0 if there are none, and nothing is read then. */

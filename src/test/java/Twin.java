@@ -347,8 +347,7 @@ final class Twin {
                 return -1 - m.start(3);
             }
             if (e > p) {
-                boolean open = longer && m.end() == 55 && p == 1 && e <= 12;
-                return open ? -56 : -1 - m.start(1);
+                return -1 - m.start(1);
             }
             at = m.end();
             boolean early = t.startsWith("e", at);
