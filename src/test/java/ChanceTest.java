@@ -8,7 +8,9 @@ public final class ChanceTest {
     }
 
     private static void odds(int n, int k, int p, long upper, long lower) {
+        // Asked once more on an object that has told other odds.
         FairSlots x = new FairSlots();
+        x.odds(8, 3, 7);
         String call = "odds(" + n + ", " + k + ", " + p + ")";
         Check.due(call, x.odds(n, k, p), 0);
         Check.row(call, x, upper, lower);

@@ -57,6 +57,8 @@ public final class ComeTest {
         Check.due("the last of the next 99", x.when(0, 50), 98);
         Check.row("the last of the next 99", x, 2);
         Check.due("behind these", x.when(0, 51), -2);
+        Check.due("among these", x.when(1, 33), 97);
+        Check.due("just behind these", x.when(1, 34), -2);
         Check.due("behind these", x.when(2, 17), -2);
         Check.due("none such", x.when(3, 1), -1);
         Check.due("when(-1, 1)", x.when(-1, 1), -1);
@@ -69,6 +71,7 @@ public final class ComeTest {
         Check.due("another i comes ahead", x.when(0, 0), -1);
         Check.due("the next", x.when(0, 2), 2);
         Check.due("of the next 99", x.when(0, 51), 100);
+        Check.due("misses() from 2 on", x.misses(), -2);
         x = late();
         Check.due("too late", x.when(2, 1), 2);
         Check.row("too late", x, 0);
@@ -88,6 +91,7 @@ public final class ComeTest {
         Check.due("misses()", x.misses(), 1);
         Check.row("misses()", x, 4);
         x.slots(2);
+        x.runs(50);
         Check.due("the next", x.misses(), 2);
         Check.row("the next", x, 4);
         x.slots(1);

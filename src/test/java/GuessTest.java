@@ -108,6 +108,18 @@ public final class GuessTest {
         asks(x, 401, 2);
         x = Check.made(4, "1/8;1/8;7/8;7/8");
         asks(x, 102, 2);
+        // The most that may be asked of each: P 12, E 12 or more, DONE 20 or more.
+        asks(Check.made(1, "1/12;1/11"), 11, 1);
+        asks(Check.made(4, "12/12;11/12;12/12;11/12"), 112, 2);
+        x = Check.made(2, "1/12e;1/12e");
+        x.slots(19);
+        x.hurries(0);
+        x.hurries(1);
+        asks(x, 1, 2);
+        x.hurries(1);
+        x.slot();
+        x.hurries(1);
+        asks(x, 420, 1);
         x = Check.made(4, "2/3;2/5;2/4;2/7");
         asks(x, 300, 2);
         x.use();
@@ -172,6 +184,7 @@ public final class GuessTest {
         for (int k = 0; k + 1 < seen.length; k += 2) {
             x.saw(seen[k], seen[k + 1]);
         }
+        x.use();
         Check.due("looks()", x.looks(), i);
         Check.row("looks()", x, left);
     }

@@ -90,6 +90,7 @@ public final class RoomFlowTest {
     }
 
     private static void room(FairSlots x, long e, long p) {
+        x.use();
         Check.due("room()", x.room(), 0);
         Check.row("room()", x, e, p);
     }

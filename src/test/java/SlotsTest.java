@@ -13,6 +13,7 @@ public final class SlotsTest {
         shiftsThatStop();
         promise15();
         undoOfAllKinds();
+        undoOfOne();
         Check.finish("SlotsTest");
     }
 
@@ -217,6 +218,38 @@ public final class SlotsTest {
         x.slots(5);
         Check.due("undo()", x.undo(), 1);
         Check.due("SLOT", x.count(2), 6);
+    }
+
+    /** What is undone is the latest alone, with all that was there ahead of it. */
+    private static void undoOfOne() {
+        FairSlots x = Check.made(2, "1/2;1/3");
+        x.slots(3);
+        x.leaves(1);
+        x.slots(4);
+        x.hurries(0);
+        Check.due("undo() of hurries()", x.undo(), 5);
+        Check.due("SLOT", x.count(2), 7);
+        Check.due("TASKS", x.count(0), 1);
+        x.processors(1);
+        Check.due("undo() of processors()", x.undo(), 5);
+        Check.due("SLOT", x.count(2), 7);
+        Check.due("DONE", x.task(0, 4), 4);
+        x.slot();
+        x.leaves(0);
+        Check.due("undo() of leaves()", x.undo(), 6);
+        Check.due("SLOT", x.count(2), 8);
+        Check.due("TASKS", x.count(0), 1);
+        Check.shift(x, "*h0*");
+        Check.due("undo() of shift()", x.undo(), 6);
+        Check.due("SLOT", x.count(2), 8);
+        Check.due("EARLY", x.task(0, 3), 0);
+        Check.due("undo() of slot()", x.undo(), 5);
+        Check.due("undo() of slots(4)", x.undo(), 4);
+        Check.due("undo() of leaves()", x.undo(), 3);
+        Check.due("TASKS", x.count(0), 3);
+        Check.due("DONE of 1", x.task(1, 4), 1);
+        Check.due("what it has next", x.part(1, 2, 0), 3);
+        Check.due("slot()", x.slot(), 2);
     }
 
     private static void undoOfAllKinds() {

@@ -23,11 +23,18 @@ public final class TasksTest {
             Check.due("count(" + what + ") of a new object", x.count(what), due[what]);
         }
         Check.due("NONE", FairSlots.NONE, -1);
-        Check.joins(x, "2/3");
-        Check.joins(x, "1/4");
-        // TIES are dbg: by d the first one, whose DEADLINE is 2, is ahead.
+        // TIES are dbg.
+        firstTies("1/3;1/2");
+        firstTies("1/2;3/5");
+        firstTies("2/3;3/4");
+        firstTies("3/11;1/3");
+    }
+
+    /** The second one is ahead. */
+    private static void firstTies(String lines) {
+        FairSlots x = Check.made(2, lines);
         x.order();
-        Check.row("order() by the first TIES", x, 0, 1);
+        Check.row("order() of " + lines + " by the first TIES", x, 1, 0);
     }
 
     private static void promise2() {

@@ -1,3 +1,4 @@
+import java.lang.reflect.InvocationTargetException;
 import java.util.ArrayList;
 import java.util.Arrays;
 import java.util.List;
@@ -188,8 +189,8 @@ public final class TwinTest {
     }
 
     private void call(String name, int[] a) {
-        long due = answerOfTwin(name, a);
-        long got = answer(name, a);
+        long due = answer(twin, name, a);
+        long got = answer(x, name, a);
         String is = got == THROWN ? "throws" : String.valueOf(got);
         told.add(name + Arrays.toString(a) + " = " + is);
         if (got != due) {
@@ -214,129 +215,21 @@ public final class TwinTest {
         }
     }
 
-    private long answer(String name, int[] a) {
+    /** What the method of this name answers; a boolean counts 1 or 0. */
+    private static long answer(Object of, String name, int[] a) {
+        Class<?>[] types = new Class<?>[a.length];
+        Arrays.fill(types, int.class);
+        Object[] values = Arrays.stream(a).boxed().toArray();
         try {
-            switch (name) {
-                case "sign": return x.sign(a[0]);
-                case "end": return x.end(a[0]) ? 1 : 0;
-                case "joins": return x.joins();
-                case "ties": return x.ties();
-                case "task": return x.task(a[0], a[1]);
-                case "part": return x.part(a[0], a[1], a[2]);
-                case "sheet": return x.sheet(a[0], a[1], a[2], a[3]);
-                case "slot": return x.slot();
-                case "slots": return x.slots(a[0]);
-                case "processors": return x.processors(a[0]);
-                case "leaves": return x.leaves(a[0]);
-                case "hurries": return x.hurries(a[0]);
-                case "shift": return x.shift();
-                case "undo": return x.undo();
-                case "lag": return x.lag(a[0]);
-                case "use": return x.use();
-                case "order": return x.order();
-                case "behind": return x.behind();
-                case "ahead": return x.ahead(a[0]);
-                case "runs": return x.runs(a[0]);
-                case "when": return x.when(a[0], a[1]);
-                case "misses": return x.misses();
-                case "round": return x.round();
-                case "share": return x.share(a[0], a[1]);
-                case "pairs": return x.pairs(a[0]);
-                default: return answerOfRest(name, a);
+            Object answer = of.getClass().getDeclaredMethod(name, types).invoke(of, values);
+            return answer instanceof Boolean b ? (b ? 1 : 0) : ((Number) answer).longValue();
+        } catch (InvocationTargetException e) {
+            if (e.getCause() instanceof NoSuchElementException) {
+                return THROWN;
             }
-        } catch (NoSuchElementException e) {
-            return THROWN;
-        }
-    }
-
-    private long answerOfRest(String name, int[] a) {
-        switch (name) {
-            case "lags": return x.lags(a[0]);
-            case "flow": return x.flow(a[0]);
-            case "waits": return x.waits(a[0]);
-            case "room": return x.room();
-            case "fewest": return x.fewest();
-            case "heard": return x.heard(a[0], a[1]);
-            case "forget": return x.forget();
-            case "fits": return x.fits();
-            case "asks": return x.asks();
-            case "saw": return x.saw(a[0], a[1]);
-            case "denies": return x.denies();
-            case "weights": return x.weights();
-            case "looks": return x.looks();
-            case "odds": return x.odds(a[0], a[1], a[2]);
-            case "divisors": return x.divisors(a[0]);
-            case "rests": return x.rests(a[0]);
-            case "law": return x.law();
-            case "years": return x.years(a[0], a[1]);
-            case "keep": return x.keep(a[0]) ? 1 : 0;
-            case "again": return x.again(a[0]) ? 1 : 0;
-            case "count": return x.count(a[0]);
-            case "row": return x.row(a[0]);
-            default: throw new IllegalArgumentException(name);
-        }
-    }
-
-    private long answerOfTwin(String name, int[] a) {
-        try {
-            switch (name) {
-                case "sign": return twin.sign(a[0]);
-                case "end": return twin.end(a[0]) ? 1 : 0;
-                case "joins": return twin.joins();
-                case "ties": return twin.ties();
-                case "task": return twin.task(a[0], a[1]);
-                case "part": return twin.part(a[0], a[1], a[2]);
-                case "sheet": return twin.sheet(a[0], a[1], a[2], a[3]);
-                case "slot": return twin.slot();
-                case "slots": return twin.slots(a[0]);
-                case "processors": return twin.processors(a[0]);
-                case "leaves": return twin.leaves(a[0]);
-                case "hurries": return twin.hurries(a[0]);
-                case "shift": return twin.shift();
-                case "undo": return twin.undo();
-                case "lag": return twin.lag(a[0]);
-                case "use": return twin.use();
-                case "order": return twin.order();
-                case "behind": return twin.behind();
-                case "ahead": return twin.ahead(a[0]);
-                case "runs": return twin.runs(a[0]);
-                case "when": return twin.when(a[0], a[1]);
-                case "misses": return twin.misses();
-                case "round": return twin.round();
-                case "share": return twin.share(a[0], a[1]);
-                case "pairs": return twin.pairs(a[0]);
-                default: return answerOfTwinsRest(name, a);
-            }
-        } catch (NoSuchElementException e) {
-            return THROWN;
-        }
-    }
-
-    private long answerOfTwinsRest(String name, int[] a) {
-        switch (name) {
-            case "lags": return twin.lags(a[0]);
-            case "flow": return twin.flow(a[0]);
-            case "waits": return twin.waits(a[0]);
-            case "room": return twin.room();
-            case "fewest": return twin.fewest();
-            case "heard": return twin.heard(a[0], a[1]);
-            case "forget": return twin.forget();
-            case "fits": return twin.fits();
-            case "asks": return twin.asks();
-            case "saw": return twin.saw(a[0], a[1]);
-            case "denies": return twin.denies();
-            case "weights": return twin.weights();
-            case "looks": return twin.looks();
-            case "odds": return twin.odds(a[0], a[1], a[2]);
-            case "divisors": return twin.divisors(a[0]);
-            case "rests": return twin.rests(a[0]);
-            case "law": return twin.law();
-            case "years": return twin.years(a[0], a[1]);
-            case "keep": return twin.keep(a[0]) ? 1 : 0;
-            case "again": return twin.again(a[0]) ? 1 : 0;
-            case "count": return twin.count(a[0]);
-            case "row": return twin.row(a[0]);
-            default: throw new IllegalArgumentException(name);
+            throw new IllegalStateException(name + Arrays.toString(a), e.getCause());
+        } catch (ReflectiveOperationException e) {
+            throw new IllegalArgumentException(name, e);
         }
     }
 }

@@ -48,6 +48,9 @@ public final class WorkTest {
         Check.row("years(7, 7)", x, 7, 6);
         Check.due("years(7, 9)", x.years(7, 9), 0);
         Check.row("years(7, 9)", x, 5, 4);
+        Check.due("years(7, 1)", x.years(7, 1), 0);
+        Check.row("years(7, 1)", x, 7, 1);
+        x.years(7, 9);
         Check.due("years(7, 0)", x.years(7, 0), -1);
         Check.due("years(7, 61)", x.years(7, 61), -1);
         Check.row("the ROW stays", x, 5, 4);
