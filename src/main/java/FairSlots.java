@@ -15,6 +15,7 @@ public final class FairSlots {
     private static final int MOST_KEPT = 2;
     private static final int MISSING_SHEET = 3;
     private static final int SHARES = 10;
+    private static final int MOST_CHANCES = 8;
 
     /** Every P from 1 to 12 goes into it, so that WEIGHTS add up as whole numbers. */
     private static final int WHOLE = 27720;
@@ -32,7 +33,7 @@ public final class FairSlots {
     private final Extremes extremes = new Extremes();
     private final Stream stream = new Stream();
     private final int[] pairCounts = new int[TASKS * TASKS];
-    private final long[] chances = new long[TASKS + 1];
+    private final long[] chances = new long[MOST_CHANCES + 1];
 
     public FairSlots() {
     }
@@ -614,21 +615,21 @@ public final class FairSlots {
     // ---- chances, a game
 
     public int odds(int n, int k, int p) {
-        if (n < 0 || n > TASKS || k < 0 || k > TASKS || p < 0 || p > 10) {
+        if (n < 0 || n > MOST_CHANCES || k < 0 || k > MOST_CHANCES || p < 0 || p > 10) {
             return NONE;
         }
         Arrays.fill(chances, 0);
         chances[0] = 1;
         long all = 1;
         for (int slot = 0; slot < n; slot++) {
-            for (int kept = TASKS; kept > 0; kept--) {
+            for (int kept = MOST_CHANCES; kept > 0; kept--) {
                 chances[kept] = chances[kept] * p + chances[kept - 1] * (10 - p);
             }
             chances[0] *= p;
             all *= 10;
         }
         long enough = 0;
-        for (int kept = k; kept <= TASKS; kept++) {
+        for (int kept = k; kept <= MOST_CHANCES; kept++) {
             enough += chances[kept];
         }
         told.clear();
