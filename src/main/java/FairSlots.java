@@ -299,7 +299,7 @@ public final class FairSlots {
             later.goBy(tiesNow, NONE);
         }
         told.clear();
-        told.add(later.missed);
+        told.add(later.missed - now.missed);
         return later.ran;
     }
 

@@ -38,13 +38,16 @@ public final class ComeTest {
             Check.due("runs(" + n + ")", x.runs(n), run[n]);
             Check.row("runs(" + n + ")", x, misses[n]);
         }
-        // All SLOTS ahead of it: those that went by, too.
+        // Of SLOTS from this one on alone: MISSES that went by are not among them.
         x.slots(2);
-        Check.due("runs(0)", x.runs(0), 4);
-        Check.row("runs(0)", x, 2);
+        Check.due("MISSES that went by", x.count(3), 1);
+        Check.due("runs(0) behind a MISS", x.runs(0), 4);
+        Check.row("runs(0) behind a MISS", x, 1);
+        Check.due("runs(4) behind a MISS", x.runs(4), 3);
+        Check.row("runs(4) behind a MISS", x, 1);
         x.slots(1);
-        Check.due("runs(0)", x.runs(0), 3);
-        Check.row("runs(0)", x, 2);
+        Check.due("runs(0) behind two", x.runs(0), 3);
+        Check.row("runs(0) behind two", x, 0);
         Check.due("without TASKS", new FairSlots().runs(99), 0);
     }
 

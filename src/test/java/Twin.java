@@ -617,7 +617,7 @@ final class Twin {
             return -1;
         }
         int[][] come = come(n + 1, ties);
-        tell(land.misses + missesIn(come));
+        tell(missesIn(come));
         return come[n][0];
     }
 
