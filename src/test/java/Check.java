@@ -21,6 +21,15 @@ final class Check {
         due(what, got ? 1 : 0, want ? 1 : 0);
     }
 
+    static void same(String what, String got, String want) {
+        if (got.equals(want)) {
+            right++;
+        } else {
+            wrong++;
+            System.out.println(what + " is\n" + got + "\ndue is\n" + want);
+        }
+    }
+
     /** The ROW has these numbers and no other. */
     static void row(String what, FairSlots x, long... want) {
         due(what + ", numbers of the ROW", x.count(9), want.length);
