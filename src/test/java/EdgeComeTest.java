@@ -25,6 +25,7 @@ public final class EdgeComeTest {
         pairsOfAnotherN();
         lagsFromOneTo60();
         lagsOfAsGreat();
+        lagsOfThoseThatAreThere();
         lagsWithoutTask();
         lagsOfAnotherN();
         Check.finish("EdgeComeTest");
@@ -391,6 +392,23 @@ public final class EdgeComeTest {
         lags(x, 2, 1, 1, 0, 1, -1, 2);
         x.slot();
         lags(x, 1, 0, 1, 0, 1, -1, 2);
+    }
+
+    /** .. of TASKS that are there: not of such as left. */
+    private static void lagsOfThoseThatAreThere() {
+        FairSlots x = Check.made(1, "1/12;11/12");
+        x.leaves(0);
+        x.slots(2);
+        lags(x, 1, 1, 1, -1, 4, -1, 4);
+        lags(x, 10, 1, 10, 0, 1, -11, 12);
+        x = Check.made(1, "1/12;11/12");
+        x.leaves(1);
+        x.slots(2);
+        lags(x, 1, 0, 1, -3, 4, -3, 4);
+        // TASK 7 of eight.
+        x = Check.made(2, "1/12;1/12;1/12;1/12;1/12;1/12;1/12;1/2");
+        Check.ties(x, "");
+        lags(x, 1, 7, 1, 1, 2, -11, 12);
     }
 
     /** -2: there is no TASK. */

@@ -9,6 +9,8 @@ public final class EdgeFlowTest {
         flowFromTheNextOnesOn();
         flowOfAsManyAsThereAreProcessors();
         flowAheadOfDeadline();
+        flowOfThoseThatGiveWay();
+        flowOfEachOrder();
         flowOfDifferentSlots();
         flowOfAnotherN();
         waitsToTheLastInTime();
@@ -43,6 +45,9 @@ public final class EdgeFlowTest {
         // As many as can be.
         flow(Check.made(4, "1/1;1/1;1/1;1/1"), 8, 32, 32);
         flow(Check.made(4, "1/2;1/2;1/2;1/2;1/2;1/2;1/2;1/2"), 8, 32, 32);
+        flow(Check.made(2, "1/12;1/12;1/12;1/12;1/12;1/12;1/12;1/1"), 8, 8, 8);
+        flow(Check.made(1, "1/1e"), 1, 1, 1);
+        flow(Check.made(1, "1/1e"), 8, 8, 8);
     }
 
     /** PARTS .. whose DEADLINE is above SLOT. */
@@ -55,6 +60,15 @@ public final class EdgeFlowTest {
         flow(Alike.held(2, 0, 2), 2, 1, 1);
         flow(Alike.held(2, 0, 60), 8, 4, 4);
         flow(Alike.held(2, 0, 59), 8, 4, 4);
+        // Of 1 by 1, which waits for both others, PART t and 1 is the first that is not past in SLOT t.
+        FairSlots x = Check.made(2, "1/12e;1/12e;1/1");
+        Check.ties(x, "");
+        for (int t = 0; t < 4; t++) {
+            flow(x, 1, 1, 1);
+            flow(x, 8, 8, 8);
+            x.slot();
+        }
+        Check.due("DONE of 1/1", x.task(2, 4), 0);
     }
 
     /** .. but not above SLOT and n (1 .. 8). */
@@ -137,6 +151,68 @@ public final class EdgeFlowTest {
         flow(x, 2, 2, 3);
         flow(x, 5, 4, 5);
         flow(x, 7, 5, 6);
+    }
+
+    /** .. at most: whichever TASK comes first, each gives way to one that is more in a hurry. */
+    private static void flowOfThoseThatGiveWay() {
+        // In SLOT 3 of those that wait DEADLINES are 4 and 5.
+        for (int one = 1; one <= 7; one++) {
+            for (int other = 1; other <= 7; other++) {
+                if (one != other) {
+                    FairSlots x = waitingTill3(linesWith(one, "1/4", other, "1/5"));
+                    flow(x, 1, 1, 1);
+                    flow(x, 2, 2, 2);
+                    flow(x, 4, 2, 2);
+                    flow(x, 5, 3, 3);
+                }
+            }
+        }
+        // By w TASK 2 has the PROCESSOR; in SLOT 2 of TASKS 0 and 1 DEADLINES are 4 and 3.
+        FairSlots x = Check.made(1, "1/4;1/3;5/12e");
+        Check.ties(x, "w");
+        x.slots(2);
+        flow(x, 1, 1, 1);
+        flow(x, 2, 2, 2);
+        flow(x, 4, 3, 3);
+    }
+
+    /** TASK 0 has the PROCESSOR, the others wait. */
+    private static FairSlots waitingTill3(String others) {
+        FairSlots x = Check.made(1, "1/12e;" + others);
+        Check.ties(x, "");
+        x.slots(3);
+        return x;
+    }
+
+    /** LINES for TASKS 1 to 7: two that are told, the others 1/12. */
+    private static String linesWith(int one, String line, int other, String otherLine) {
+        StringBuilder s = new StringBuilder();
+        for (int task = 1; task <= 7; task++) {
+            s.append(task == 1 ? "" : ";").append(task == one ? line : task == other ? otherLine : "1/12");
+        }
+        return s.toString();
+    }
+
+    /** .. one behind the other, in whatever order they stand. */
+    private static void flowOfEachOrder() {
+        // DEADLINES 4 to 8, and 8 of PART 2 of 1 by 4: six in SLOTS 3 to 7.
+        eachOrder("", 0);
+    }
+
+    private static void eachOrder(String lines, int used) {
+        if (used == 0b11111) {
+            FairSlots x = waitingTill3(lines);
+            for (int n = 1; n <= 4; n++) {
+                flow(x, n, n, n);
+            }
+            flow(x, 5, 5, 6);
+            return;
+        }
+        for (int p = 4; p <= 8; p++) {
+            if ((used >> (p - 4) & 1) == 0) {
+                eachOrder((lines.isEmpty() ? "" : lines + ";") + "1/" + p, used | 1 << (p - 4));
+            }
+        }
     }
 
     /** .. PARTS of a TASK in different SLOTS. */
@@ -241,6 +317,7 @@ public final class EdgeFlowTest {
     }
 
     private static void room(FairSlots x, long e, long p) {
+        x.use();
         Check.due("room()", x.room(), 0);
         Check.row("room()", x, e, p);
         // It can join, and no greater one can.
@@ -272,6 +349,14 @@ public final class EdgeFlowTest {
         room(Check.made(2, "1/1"), 1, 1);
         room(Check.made(2, "1/1;1/12"), 11, 12);
         room(Check.made(4, "1/1;1/1;1/1;11/12"), 1, 12);
+        // 1 by 27720 less is left than what would make these 2 in all with 1/11, 1/8, 3/7, 5/9 or 4/5.
+        room(Check.made(2, "1/8;3/7;5/9;4/5"), 1, 12);
+        room(Check.made(2, "1/11;3/7;5/9;4/5"), 1, 9);
+        room(Check.made(2, "1/11;1/8;5/9;4/5"), 5, 12);
+        room(Check.made(2, "1/11;1/8;3/7;4/5"), 6, 11);
+        room(Check.made(2, "1/11;1/8;3/7;5/9"), 7, 9);
+        // 1 by 27720 more is left.
+        room(Check.made(3, "4/9;4/7;7/8;10/11"), 1, 5);
         // 23 by 35 is left, .657..: 5 by 8 is .625, 7 by 11 .636, 2 by 3 too much.
         room(Check.made(1, "1/5;1/7"), 7, 11);
         room(Check.made(1, "10/11"), 1, 11);
@@ -281,6 +366,7 @@ public final class EdgeFlowTest {
     private static void roomOfNone() {
         Alike.refused("nothing is left", () -> Check.made(1, "1/1"), x -> x.room(), -2);
         Alike.refused("less than 1 by 12 is left", () -> Check.made(1, "10/11;1/12"), x -> x.room(), -2);
+        Alike.refused("1/27720 is left", () -> Check.made(3, "1/5;4/9;4/7;7/8;10/11"), x -> x.room(), -2);
         Alike.refused("nothing of four is left", () -> Check.made(4, "1/1;1/1;1/1;1/1"), x -> x.room(), -2);
         room(Check.made(1, "1/2;5/12"), 1, 12);
     }
@@ -319,6 +405,8 @@ public final class EdgeFlowTest {
         fewest(Check.made(2, "1/1;1/1"), 2, 2);
         fewest(Check.made(4, "1/1;1/1;1/12"), 3, 3);
         fewest(Check.made(4, "1/1;1/1;1/1"), 3, 3);
+        fewest(Check.made(4, "1/11;1/8;3/7;5/9;4/5"), 3, 5);
+        fewest(Check.made(4, "1/5;4/9;4/7;7/8;10/11"), 3, 3);
         fewest(Check.made(4, "1/1;1/1;1/1;1/12"), 4, 4);
         fewest(Check.made(4, "1/1;1/1;1/1;1/1"), 4, 4);
     }

@@ -143,6 +143,8 @@ public final class EdgeSlotsTest {
     private static void processorsBelowUse() {
         Alike.refused("1 and 1/12", () -> Check.made(2, "1/1;1/12"), x -> x.processors(1), -3);
         Alike.refused("1 and 1/132", () -> Check.made(2, "1/11;11/12"), x -> x.processors(1), -3);
+        Alike.refused("2 and 1/27720", () -> Check.made(3, "1/11;1/8;3/7;5/9;4/5"), x -> x.processors(2), -3);
+        Check.due("3 less 1/27720", Check.made(4, "1/5;4/9;4/7;7/8;10/11").processors(3), 14);
         Alike.refused("3 and 1/12", () -> Check.made(4, "1/1;1/1;1/1;1/12"), x -> x.processors(3), -3);
         Check.due("131/132", Check.made(2, "10/11;1/12").processors(1), 12);
         Check.due("1", Check.made(2, "1/2;1/3;1/6").processors(1), 12);

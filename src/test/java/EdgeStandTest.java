@@ -75,6 +75,7 @@ public final class EdgeStandTest {
         use(x, 4, 1, 0, 1);
         x = Check.made(1, "10/11;1/12");
         use(x, 131, 132, 1, 132);
+        use(Check.made(3, "1/11;1/8;3/7;5/9;4/5"), 55441, 27720, 27719, 27720);
         // The lower number that all P have together.
         use(Check.made(2, "1/8;1/9;1/5;1/7;1/11"), 18569, 27720, 36871, 27720);
     }
@@ -136,6 +137,12 @@ public final class EdgeStandTest {
         x = Check.made(2, "1/12e;1/11e");
         x.slot();
         behind(x, 1, -10, 11);
+        // What left does not count.
+        x = Check.made(1, "11/12;1/12");
+        Check.ties(x, "w");
+        x.leaves(0);
+        x.slots(3);
+        behind(x, 1, -3, 4);
         // TASK 7 alone.
         x = Check.made(2, EIGHT);
         Check.ties(x, "");

@@ -272,6 +272,13 @@ public final class EdgeTasksTest {
         Check.due("1 by 132 less", Check.joins(new FairSlots(), "10/11;1/12"), 2);
         Check.due("1 by 132 more", Check.joins(new FairSlots(), "1/11;11/12"), -100);
         Check.due("1 and 1/12", Check.joins(new FairSlots(), "1/1;1/12"), -100);
+        // The least that can be above 2 and below 3.
+        FairSlots two = new FairSlots();
+        two.processors(2);
+        Check.due("2 and 1 by 27720", Check.joins(two, "1/11;1/8;3/7;5/9;4/5"), -100);
+        FairSlots three = new FairSlots();
+        three.processors(3);
+        Check.due("3 less 1 by 27720", Check.joins(three, "1/5;4/9;4/7;7/8;10/11"), 5);
         for (int processors = 1; processors <= 4; processors++) {
             FairSlots x = new FairSlots();
             if (processors > 1) {

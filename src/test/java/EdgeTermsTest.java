@@ -13,6 +13,8 @@ public final class EdgeTermsTest {
         readyIfEarly();
         tiesThatLeadOrNot();
         tiesOfBothOverlaps();
+        tiesOfFiveLetters();
+        tiesOfTheLastTask();
         tiesThatGoRound();
         asManyAsThereAreProcessors();
         oncePerTask();
@@ -38,6 +40,22 @@ public final class EdgeTermsTest {
         Check.due("SLOT at first", x.count(2), 0);
         Check.due("MISSES at first", x.count(3), 0);
         Check.due("TIES at first", x.count(4), 3);
+        // dbg: d leads b, b leads g, and neither w nor r tells anything.
+        firstAtFirst("2/3;1/1", 1);
+        firstAtFirst("3/5;1/2", 0);
+        firstAtFirst("1/2;3/5", 1);
+        firstAtFirst("2/3;3/4", 1);
+        firstAtFirst("3/4;2/3", 0);
+        firstAtFirst("1/2;5/9", 1);
+        firstAtFirst("3/8;4/11", 0);
+        firstAtFirst("4/11;3/8", 0);
+        firstAtFirst("2/12;3/12", 1);
+    }
+
+    private static void firstAtFirst(String lines, int first) {
+        FairSlots x = Check.made(2, lines);
+        x.order();
+        Check.due("the first of " + lines + " by TIES at first", x.row(0), first);
     }
 
     /** TASKS 0 .. 7, there or not. */
@@ -260,6 +278,66 @@ public final class EdgeTermsTest {
         // A GROUP DEADLINE of 0 is less than any other one.
         firstBy("g", "2/5;3/5", 1);
         firstBy("g", "2/5;2/7", 0);
+        // .. whenever they joined: PART 3 of 2 by 5 and PART 1 of 2 by 7, which joined in SLOT 5.
+        FairSlots x = Check.made(1, "2/5");
+        x.slots(5);
+        Check.joins(x, "2/7");
+        Check.ties(x, "g");
+        x.order();
+        Check.row("GROUP DEADLINE 0 of both", x, 0, 1);
+    }
+
+    /** All letters that were told count, the fifth, too. */
+    private static void tiesOfFiveLetters() {
+        firstBy("rdbgw", "4/11;3/8", 1);
+        firstBy("rdbg", "4/11;3/8", 0);
+        // In SLOT 3 PART 3 of TASK 2 and PART 1 of TASK 1, 5 by 7 both, differ in RELEASE alone: 2 and 3.
+        FairSlots x = Check.made(2, "1/12e;1/12;5/7");
+        x.leaves(1);
+        Check.ties(x, "");
+        x.slots(2);
+        x.processors(1);
+        x.slot();
+        x.processors(2);
+        Check.joins(x, "5/7");
+        Check.due("PART 3 of 2 is next", x.task(2, 4), 2);
+        Check.ties(x, "dbgw");
+        x.order();
+        Check.row("by dbgw", x, 1, 2, 0);
+        Check.ties(x, "dbgwr");
+        x.order();
+        Check.row("by dbgwr", x, 2, 1, 0);
+    }
+
+    /** TASK 7 is as others, in SLOTS to come and behind undo(), too. */
+    private static void tiesOfTheLastTask() {
+        String six = "1/12;1/12;1/12;1/12;1/12;1/12;";
+        lastTask("d", six + "1/3;1/2", 7, 6, 0);
+        lastTask("d", six + "1/2;1/3", 6, 7, 0);
+        lastTask("b", six + "1/2;2/3", 7, 0, 1);
+        lastTask("w", six + "1/2;2/3", 7, 6, 0);
+        // OVERLAP of all is 1, GROUP DEADLINE of the first six 0.
+        six = "2/11;2/11;2/11;2/11;2/11;2/11;";
+        lastTask("g", six + "2/3;3/4", 7, 6, 0);
+        lastTask("g", six + "3/4;2/3", 6, 7, 0);
+    }
+
+    /** The first three of eight by TIES, on three PROCESSORS. */
+    private static void lastTask(String ties, String lines, int first, int second, int third) {
+        FairSlots x = Check.made(3, lines);
+        Check.ties(x, ties);
+        int run = 1 << first | 1 << second | 1 << third;
+        for (int slots = 1; slots <= 4; slots++) {
+            Check.due("order() of " + lines, x.order(), 8);
+            Check.due("the first by " + ties, x.row(0), first);
+            Check.due("the second by " + ties, x.row(1), second);
+            Check.due("the third by " + ties, x.row(2), third);
+            Check.due("runs(0) by " + ties, x.runs(0), run);
+            Check.due("slot() by " + ties, x.slot(), run);
+            x.slots(slots);
+            x.undo();
+            x.undo();
+        }
     }
 
     /** They are gone through by number; one is kept, and left for one that is ahead of it. */

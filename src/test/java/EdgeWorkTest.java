@@ -369,6 +369,16 @@ public final class EdgeWorkTest {
         for (int what = 0; what <= 10; what++) {
             Check.due("count(" + what + ")", x.count(what), due[what]);
         }
+        // DONE of TASK 7, too; of one that left no more.
+        x = Check.made(1, "1/12;1/12;1/12;1/12;1/12;1/12;1/12;1/12");
+        for (int done = 0; done <= 8; done++) {
+            Check.due("DONE of all", x.count(5), done);
+            x.slot();
+        }
+        x.slots(3);
+        x.leaves(7);
+        Check.due("DONE of all but one", x.count(5), 7);
+        Check.due("TASKS", x.count(0), 127);
     }
 
     /** NONE for another what. */
