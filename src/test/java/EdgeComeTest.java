@@ -201,6 +201,8 @@ public final class EdgeComeTest {
         round("5/9;4/11", 99, 91);
         round("1/9;1/11", 99, 20);
         round("1/7;1/12", 84, 19);
+        // TASK 7 alone is behind longer.
+        round("1/8;1/8;1/8;1/8;1/8;1/8;1/8;1/12", 24, 23);
         FairSlots x = Check.made(1, "1/2;1/3");
         x.slots(7);
         Check.due("round() from LAGS that are not 0", x.round(), 6);

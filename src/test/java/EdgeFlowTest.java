@@ -419,6 +419,11 @@ public final class EdgeFlowTest {
         fewest(Check.made(2, "1/12;1/2;7/12"), 2, 2);
         fewest(Check.made(2, "1/6;1/6;1/6;1/6;1/6;1/6;1/12"), 2, 7);
         fewest(Check.made(2, "1/6;1/6;1/6;1/6;1/6;1/6;1/12;2/12"), 2, 7);
+        // The greatest five have 1 by 27720 more than 2, the sixth is not asked for.
+        fewest(Check.made(3, "1/11;1/8;3/7;5/9;4/5;1/12"), 3, 5);
+        // All eight; and TASK 7 as the greatest one.
+        fewest(Check.made(2, "1/7;1/7;1/7;1/7;1/7;1/7;1/7;1/12"), 2, 8);
+        fewest(Check.made(2, "1/12;1/12;1/12;1/12;1/12;1/12;1/12;1/1"), 2, 2);
         // The greatest ones stand last.
         fewest(Check.made(3, "1/12;1/12;1/12;1/6;11/12;11/12"), 3, 4);
     }
